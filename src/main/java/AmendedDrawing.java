@@ -33,9 +33,9 @@ public final class AmendedDrawing {
     private final Action[] row;
     private final Action offered;
     private final History history;
+    private final Outcome now;
+    private final Outcome trial;
     private int count;
-    private Outcome now;
-    private Outcome trial;
 
     public AmendedDrawing() {
         row = new Action[MOST_ACTIONS];
@@ -44,13 +44,13 @@ public final class AmendedDrawing {
         }
         offered = new Action();
         history = new History();
-        count = 0;
         now = new Outcome();
         trial = new Outcome();
+        count = 0;
     }
 
     public int commit(int kind, int a, int b, int c, int d) throws IllegalArgumentException, IllegalStateException {
-        // The row's own place stays untouched until the action is accepted: a commit that was undone may still wait there.
+        // A commit that was undone may wait in the row to be done again, so nothing goes there before it is accepted.
         offered.become(kind, a, b, c, d);
         if (!offered.isValid()) {
             throw new IllegalArgumentException();
@@ -72,7 +72,9 @@ public final class AmendedDrawing {
             throw new IllegalStateException();
         }
         history.add().become(WITHDRAWN, n, 0, 0, 0);
-        return switchAction(n, true);
+        row[n].withdrawn = true;
+        now.play(row, count, NONE);
+        return changedBeside(n);
     }
 
     public int reinstate(int n) throws IndexOutOfBoundsException, IllegalStateException {
@@ -81,7 +83,9 @@ public final class AmendedDrawing {
             throw new IllegalStateException();
         }
         history.add().become(REINSTATED, n, 0, 0, 0);
-        return switchAction(n, false);
+        row[n].withdrawn = false;
+        now.play(row, count, NONE);
+        return changedBeside(n);
     }
 
     public int amend(int n, int i, int v) throws IndexOutOfBoundsException, IllegalArgumentException {
@@ -91,7 +95,8 @@ public final class AmendedDrawing {
         }
         int before = row[n].arguments[i];
         history.add().become(AMENDED, n, i, before, v);
-        setArgument(n, i, v);
+        row[n].arguments[i] = v;
+        now.play(row, count, NONE);
         return before;
     }
 
@@ -100,20 +105,8 @@ public final class AmendedDrawing {
             throw new java.util.NoSuchElementException();
         }
         Edit edit = history.stepBack();
-        switch (edit.kind) {
-            case COMMITTED:
-                setCount(edit.action);
-                break;
-            case WITHDRAWN:
-                switchAction(edit.action, false);
-                break;
-            case REINSTATED:
-                switchAction(edit.action, true);
-                break;
-            default:
-                setArgument(edit.action, edit.argument, edit.before);
-                break;
-        }
+        setEdit(edit, false);
+        now.play(row, count, NONE);
         return edit.kind;
     }
 
@@ -122,20 +115,8 @@ public final class AmendedDrawing {
             throw new java.util.NoSuchElementException();
         }
         Edit edit = history.stepForward();
-        switch (edit.kind) {
-            case COMMITTED:
-                setCount(edit.action + 1);
-                break;
-            case WITHDRAWN:
-                switchAction(edit.action, true);
-                break;
-            case REINSTATED:
-                switchAction(edit.action, false);
-                break;
-            default:
-                setArgument(edit.action, edit.argument, edit.after);
-                break;
-        }
+        setEdit(edit, true);
+        now.play(row, count, NONE);
         return edit.kind;
     }
 
@@ -237,34 +218,34 @@ public final class AmendedDrawing {
         }
     }
 
-    private int switchAction(int n, boolean withdrawn) {
-        row[n].withdrawn = withdrawn;
-        playAnew();
+    /** Lets the row be as it is behind the edit, or as it was before it; the action of a commit stays in its place. */
+    private void setEdit(Edit edit, boolean done) {
+        Action action = row[edit.action];
+        switch (edit.kind) {
+            case COMMITTED:
+                count = done ? edit.action + 1 : edit.action;
+                break;
+            case WITHDRAWN:
+                action.withdrawn = done;
+                break;
+            case REINSTATED:
+                action.withdrawn = !done;
+                break;
+            default:
+                action.arguments[edit.argument] = done ? edit.after : edit.before;
+                break;
+        }
+    }
+
+    /** How many actions beside this one had another effect before the row was played last. */
+    private int changedBeside(int n) {
         int changed = 0;
         for (int other = 0; other < count; other++) {
-            if (other != n && now.effects[other] != trial.effects[other]) {
+            if (other != n && now.effects[other] != now.before[other]) {
                 changed++;
             }
         }
         return changed;
-    }
-
-    private void setArgument(int n, int i, int v) {
-        row[n].arguments[i] = v;
-        playAnew();
-    }
-
-    private void setCount(int newCount) {
-        count = newCount;
-        playAnew();
-    }
-
-    /** Afterwards trial holds what was before, for whoever compares the two. */
-    private void playAnew() {
-        trial.play(row, count, NONE);
-        Outcome before = now;
-        now = trial;
-        trial = before;
     }
 
     /** One action of the row; the arguments that its kind does not have are 0. */
@@ -424,27 +405,30 @@ public final class AmendedDrawing {
         }
     }
 
-    /** What a row of actions makes: the drawing and the effect of each action. */
+    /** What a row of actions makes: the drawing and the effect of each action, and the effects that they had before. */
     private static final class Outcome {
         final Drawing drawing;
         final int[] effects;
+        final int[] before;
 
         Outcome() {
             drawing = new Drawing();
             effects = new int[MOST_ACTIONS];
+            before = new int[MOST_ACTIONS];
         }
 
         /** Plays the row's first actions as if the one that is called switched was withdrawn, or had come back. */
         void play(Action[] row, int count, int switched) {
+            System.arraycopy(effects, 0, before, 0, MOST_ACTIONS);
             drawing.clear();
             for (int n = 0; n < count; n++) {
                 boolean withdrawn = row[n].withdrawn != (n == switched);
-                effects[n] = withdrawn ? EFFECT_WITHDRAWN : effectOf(row[n], n);
+                if (withdrawn) {
+                    effects[n] = EFFECT_WITHDRAWN;
+                } else {
+                    effects[n] = drawing.carryOut(row[n], n) ? EFFECT_DONE : EFFECT_NONE;
+                }
             }
-        }
-
-        private int effectOf(Action action, int n) {
-            return drawing.carryOut(action, n) ? EFFECT_DONE : EFFECT_NONE;
         }
     }
 
@@ -485,7 +469,6 @@ public final class AmendedDrawing {
             form = COMPOUND;
             colour = NONE;
             parent = NONE;
-            setBox(0, 0, 0, 0);
         }
 
         void setBox(int newLeft, int newTop, int newWidth, int newHeight) {
@@ -495,7 +478,7 @@ public final class AmendedDrawing {
             height = newHeight;
         }
 
-        int edge(int side) {
+        int end(int side) {
             switch (side) {
                 case LEFT: return left;
                 case TOP: return top;
@@ -504,16 +487,21 @@ public final class AmendedDrawing {
             }
         }
 
-        boolean canMove(int x, int y) {
+        boolean canShift(int x, int y) {
             return keepsLimits(left + x, top + y, width, height);
         }
 
-        boolean canScale(int fromLeft, int fromTop, int p, int q) {
+        void shift(int x, int y) {
+            left += x;
+            top += y;
+        }
+
+        boolean canStretch(int fromLeft, int fromTop, int p, int q) {
             return keepsLimits(scaledPlace(left, fromLeft, p, q), scaledPlace(top, fromTop, p, q),
                     scaledLength(width, p, q), scaledLength(height, p, q));
         }
 
-        void scale(int fromLeft, int fromTop, int p, int q) {
+        void stretch(int fromLeft, int fromTop, int p, int q) {
             setBox(scaledPlace(left, fromLeft, p, q), scaledPlace(top, fromTop, p, q),
                     scaledLength(width, p, q), scaledLength(height, p, q));
         }
@@ -548,12 +536,14 @@ public final class AmendedDrawing {
                     && left + width <= MOST_PLACE && top + height <= MOST_PLACE;
         }
 
+        /** A place is never before that of the box around it, so the division rounds down; q is 1 at least. */
         private static int scaledPlace(int place, int from, int p, int q) {
-            return from + Math.floorDiv((place - from) * p, q);
+            return from + (place - from) * p / q;
         }
 
         private static int scaledLength(int length, int p, int q) {
-            return Math.max(1, Math.floorDiv(length * p, q));
+            int scaled = length * p / q;
+            return scaled < 1 ? 1 : scaled;
         }
     }
 
@@ -663,17 +653,15 @@ public final class AmendedDrawing {
         }
 
         private boolean move(int a, int x, int y) {
-            int end = endOf(a);
-            for (int at = placeOf(a); at < end; at++) {
-                Item item = items[order[at]];
-                if (item.isShape() && !item.canMove(x, y)) {
+            for (int at = 0; at < size; at++) {
+                if (isShapeIn(order[at], a) && !items[order[at]].canShift(x, y)) {
                     return false;
                 }
             }
-            for (int at = placeOf(a); at < end; at++) {
-                Item item = items[order[at]];
-                item.left += x;
-                item.top += y;
+            for (int at = 0; at < size; at++) {
+                if (isShapeIn(order[at], a)) {
+                    items[order[at]].shift(x, y);
+                }
             }
             return true;
         }
@@ -681,28 +669,23 @@ public final class AmendedDrawing {
         private boolean scale(int a, int p, int q) {
             int left = edge(a, Item.LEFT);
             int top = edge(a, Item.TOP);
-            int end = endOf(a);
-            for (int at = placeOf(a); at < end; at++) {
-                Item item = items[order[at]];
-                if (item.isShape() && !item.canScale(left, top, p, q)) {
+            for (int at = 0; at < size; at++) {
+                if (isShapeIn(order[at], a) && !items[order[at]].canStretch(left, top, p, q)) {
                     return false;
                 }
             }
-            for (int at = placeOf(a); at < end; at++) {
-                Item item = items[order[at]];
-                if (item.isShape()) {
-                    item.scale(left, top, p, q);
+            for (int at = 0; at < size; at++) {
+                if (isShapeIn(order[at], a)) {
+                    items[order[at]].stretch(left, top, p, q);
                 }
             }
             return true;
         }
 
         private boolean paint(int a, int colour) {
-            int end = endOf(a);
-            for (int at = placeOf(a); at < end; at++) {
-                Item item = items[order[at]];
-                if (item.isShape()) {
-                    item.colour = colour;
+            for (int at = 0; at < size; at++) {
+                if (isShapeIn(order[at], a)) {
+                    items[order[at]].colour = colour;
                 }
             }
             return true;
@@ -751,7 +734,7 @@ public final class AmendedDrawing {
 
         private boolean makeDouble(int a, int x, int y, int number) {
             Item model = items[a];
-            if (!model.isShape() || size >= MOST_OBJECTS || !model.canMove(x, y)) {
+            if (!model.isShape() || size >= MOST_OBJECTS || !model.canShift(x, y)) {
                 return false;
             }
             items[number].becomeShape(model.form, model.colour, model.parent);
@@ -772,25 +755,27 @@ public final class AmendedDrawing {
         private int edge(int name, int side) {
             boolean least = side == Item.LEFT || side == Item.TOP;
             int farthest = least ? Integer.MAX_VALUE : Integer.MIN_VALUE;
-            int end = endOf(name);
-            for (int at = placeOf(name); at < end; at++) {
-                Item item = items[order[at]];
-                if (item.isShape()) {
-                    int edge = item.edge(side);
-                    farthest = least ? Math.min(farthest, edge) : Math.max(farthest, edge);
+            for (int at = 0; at < size; at++) {
+                if (isShapeIn(order[at], name)) {
+                    int end = items[order[at]].end(side);
+                    farthest = least ? Math.min(farthest, end) : Math.max(farthest, end);
                 }
             }
             return farthest;
         }
 
-        /** Whether it is the group itself, its member, or in one of its members. */
-        private boolean isIn(int name, int group) {
-            int outer = name;
-            for (int up = 0; up < MOST_OBJECTS && outer != NONE; up++) {
-                if (outer == group) {
+        private boolean isShapeIn(int name, int outer) {
+            return items[name].isShape() && isIn(name, outer);
+        }
+
+        /** Whether it is the other one itself, its member, or in one of its members. */
+        private boolean isIn(int name, int outer) {
+            int around = name;
+            for (int up = 0; up < MOST_OBJECTS && around != NONE; up++) {
+                if (around == outer) {
                     return true;
                 }
-                outer = items[outer].parent;
+                around = items[around].parent;
             }
             return false;
         }

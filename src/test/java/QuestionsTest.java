@@ -52,6 +52,11 @@ public final class QuestionsTest {
         }
         d.withdraw(1);
         CHECK.same("argument of a withdrawn one", d.argument(1, 1), 6);
+        int delete = d.commit(1, 0, 11, 22, 33);
+        for (int i = 1; i <= 3; i++) {
+            CHECK.same("argument that delete does not have", d.argument(delete, i), 0);
+        }
+        d.undo();
         for (int i : new int[] {-1, 5, MIN, MAX}) {
             CHECK.fails("argument(0, " + i + ")", INDEX, () -> d.argument(0, i));
         }
@@ -229,6 +234,9 @@ public final class QuestionsTest {
                 "#######",
                 ".#####.",
                 "...#...");
+        AmendedDrawing even = new AmendedDrawing();
+        Sketch.make(even, Sketch.DIAMOND, 0, 0, 4, 4);
+        drawn(even, 0, 0, ".##.", "####", "####", ".##.");
     }
 
     private static void promise15HitLatest() {
