@@ -16,6 +16,10 @@ final class Check {
         same(what, held ? 1 : 0, 1);
     }
 
+    void text(String what, String got, String want) {
+        holds(what + " is " + got + ", due is " + want, got.equals(want));
+    }
+
     /** The very class counts: a subclass such as ArrayIndexOutOfBoundsException is an accident, not an answer. */
     void fails(String what, Class<? extends RuntimeException> want, Runnable call) {
         try {

