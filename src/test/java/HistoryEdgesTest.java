@@ -87,9 +87,11 @@ public final class HistoryEdgesTest {
         }
     }
 
-    /** Three rectangles, the last one withdrawn: each kind of edit can be next. */
+    /** One of each shape, the last one withdrawn: each kind of edit can be next. */
     private static AmendedDrawing ready() {
-        AmendedDrawing d = Sketch.squares(3);
+        AmendedDrawing d = Sketch.squares(1);
+        Sketch.make(d, Sketch.ELLIPSE, -170, 1, 11, 12);
+        Sketch.make(d, Sketch.DIAMOND, -150, 2, 13, 14);
         d.withdraw(2);
         return d;
     }

@@ -13,6 +13,7 @@ public final class KindEdgesTest {
         deleteWithAllThatIsInIt();
         deleteTheLastMember();
         deleteTheOnlyOneInManyGroups();
+        whatIsGoneDoesNotCount();
         moveByNothing();
         scaleIsRoundedDown();
         scaleKeepsOneAtLeast();
@@ -32,6 +33,7 @@ public final class KindEdgesTest {
         alignWhereItIs();
         alignOneWithinTheOther();
         notThereAtItsTurn();
+        withoutEffectChangesNothing();
         withoutEffectUntilItComesBack();
         CHECK.end("KindEdgesTest");
     }
@@ -162,6 +164,35 @@ public final class KindEdgesTest {
         CHECK.same("hit", d.hit(0, 0), 0);
         Sketch.delete(d, 0);
         CHECK.same("objects when the shape is gone", d.objects(), 0);
+    }
+
+    /** A member at the limits, or named before the others, is gone: neither box, limits nor order know it any more. */
+    private static void whatIsGoneDoesNotCount() {
+        AmendedDrawing d = new AmendedDrawing();
+        Sketch.make(d, 0, 0, 0, 10, 10);
+        Sketch.make(d, 0, 190, 190, 10, 10);
+        Sketch.make(d, 0, -200, -200, 10, 10);
+        Sketch.group(d, 0, 1);
+        Sketch.group(d, 2, 3);
+        order(d, "4(3(0 1) 2)");
+        Sketch.delete(d, 2);
+        Sketch.delete(d, 1);
+        order(d, "4(3(0))");
+        box(d, 4, "0 0 10 10");
+        Sketch.move(d, 4, 5, 5);
+        box(d, 0, "5 5 10 10");
+        Sketch.scale(d, 4, 2, 1);
+        box(d, 0, "5 5 20 20");
+        Sketch.move(d, 3, -200, -200);
+        box(d, 4, "-195 -195 20 20");
+
+        AmendedDrawing first = Sketch.squares(3);
+        Sketch.delete(first, 0);
+        Sketch.move(first, 2, 1, 1);
+        box(first, 2, "-149 1 10 10");
+        Sketch.scale(first, 2, 2, 1);
+        box(first, 2, "-149 1 20 20");
+        order(first, "1 2");
     }
 
     private static void moveByNothing() {
@@ -462,6 +493,48 @@ public final class KindEdgesTest {
         group.amend(2, 1, 2);
         CHECK.same("effect of GROUP of its own number", group.effect(2), 2);
         order(group, "0 1");
+    }
+
+    /** "5(4(0 1) 2) 3" with 0 near one corner and 2 near the other, and 3 as small as can be; action 6 is for a test. */
+    private static AmendedDrawing cornerToCorner(int kind, int a, int b, int c) {
+        AmendedDrawing d = new AmendedDrawing();
+        Sketch.make(d, 0, -199, -199, 10, 10);
+        Sketch.make(d, 1, 0, 0, 20, 20);
+        Sketch.make(d, 2, 189, 189, 10, 10);
+        Sketch.make(d, 0, 0, 0, 1, 1);
+        Sketch.group(d, 0, 1);
+        Sketch.group(d, 4, 2);
+        d.commit(kind, a, b, c, 0);
+        return d;
+    }
+
+    /** "otherwise it is WITHOUT EFFECT, and changes nothing": as if it was withdrawn, of each kind but for its effect. */
+    private static void withoutEffectChangesNothing() {
+        int[][] amends = {
+            {1, 3, 0, 0, 0, 6}, {2, 5, 1, 1, 1, 2}, {2, 5, 1, 1, 2, -2}, {3, 5, 1, 1, 1, 2}, {4, 5, 7, 0, 0, 23},
+            {5, 3, 0, 0, 0, 7}, {6, 3, 5, 0, 1, 4}, {6, 3, 5, 0, 0, 5}, {7, 5, 0, 0, 0, 3}, {8, 3, 1, 1, 0, 4},
+            {8, 1, 1, 1, 1, 181}, {9, 3, 5, 0, 1, 3}, {9, 3, 5, 0, 0, 0}, {9, 2, 1, 0, 0, 5},
+        };
+        for (int[] v : amends) {
+            AmendedDrawing d = cornerToCorner(v[0], v[1], v[2], v[3]);
+            CHECK.same("effect of kind " + v[0], d.effect(6), 1);
+            d.amend(6, v[4], v[5]);
+            CHECK.same("effect of kind " + v[0] + " with " + v[5], d.effect(6), 2);
+            String without = objects(d);
+            d.withdraw(6);
+            CHECK.text("objects without kind " + v[0], without, objects(d));
+            CHECK.text("order", Sketch.order(d), "5(4(0 1) 2) 3");
+        }
+    }
+
+    private static String objects(AmendedDrawing d) {
+        StringBuilder text = new StringBuilder();
+        for (int k = 0; k < d.objects(); k++) {
+            for (int what = 0; what <= 7; what++) {
+                text.append(d.object(k, what)).append(' ');
+            }
+        }
+        return text.toString();
     }
 
     /** "later actions that have lost what they were about are without effect until that comes back". */

@@ -299,6 +299,11 @@ public final class LimitEdgesTest {
         Sketch.ungroup(byUngroup, 9);
         CHECK.same("GROUP behind UNGROUP", Sketch.group(byUngroup, 6, 11), 13);
         CHECK.fails("another one", STATE, () -> Sketch.twice(byUngroup, 0, 0, 1));
+        AmendedDrawing lastOfAll = Sketch.squares(11);
+        Sketch.group(lastOfAll, 9, 10);
+        Sketch.ungroup(lastOfAll, 11);
+        CHECK.text("order", Sketch.order(lastOfAll), "0 1 2 3 4 5 6 7 8 9 10");
+        CHECK.same("MAKE behind UNGROUP of the last", Sketch.make(lastOfAll, 0, 0, 50, 1, 1), 13);
         AmendedDrawing byGroupDelete = sevenAndFive();
         Sketch.delete(byGroupDelete, 11);
         CHECK.text("order", Sketch.order(byGroupDelete), "6");
