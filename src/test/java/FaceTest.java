@@ -32,6 +32,8 @@ public final class FaceTest {
         classIsPublicAndFinal();
         methodsAreTheFace();
         otherMembersArePrivate();
+        noPrivateMethodBearsAPublicName();
+        noneIsAConstant();
         CHECK.same("NONE", AmendedDrawing.NONE, -1);
         CHECK.end("FaceTest");
     }
@@ -79,5 +81,27 @@ public final class FaceTest {
             CHECK.holds(inner + " is static and not public",
                     Modifier.isStatic(inner.getModifiers()) && !Modifier.isPublic(inner.getModifiers()));
         }
+    }
+
+    private static void noPrivateMethodBearsAPublicName() {
+        Set<String> names = new TreeSet<>();
+        for (Method method : AmendedDrawing.class.getMethods()) {
+            if (method.getDeclaringClass() == AmendedDrawing.class) {
+                names.add(method.getName());
+            }
+        }
+        for (Method method : AmendedDrawing.class.getDeclaredMethods()) {
+            boolean hidden = Modifier.isPrivate(method.getModifiers());
+            CHECK.holds(method + " has a name of its own", !hidden || !names.contains(method.getName()));
+        }
+    }
+
+    private static void noneIsAConstant() {
+        Field[] seen = AmendedDrawing.class.getFields();
+        CHECK.same("public constants", seen.length, 1);
+        CHECK.text("its name", seen[0].getName(), "NONE");
+        CHECK.holds("an int", seen[0].getType() == int.class);
+        CHECK.holds("static and final", Modifier.isStatic(seen[0].getModifiers())
+                && Modifier.isFinal(seen[0].getModifiers()));
     }
 }
