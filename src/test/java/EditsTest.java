@@ -306,6 +306,7 @@ public final class EditsTest {
         CHECK.same("left", d.object(0, 2), 39);
     }
 
+    /** "The latest 32 can be undone": what fell out of them does not come back when some are undone and one is new. */
     private static void promise6OldEditsStayLost() {
         AmendedDrawing d = Sketch.squares(1);
         for (int k = 1; k <= 40; k++) {

@@ -4,6 +4,7 @@ import java.util.function.IntSupplier;
 /** Long runs of mixed calls, each answer compared with that of PlainModel. The runs are the same every time. */
 public final class ModelTest {
     private static final int RUNS = 400;
+    private static final int HISTORY_RUNS = 100;
     private static final int CALLS = 512;
     private static final Check CHECK = new Check();
     private static final int[] FAR = {Integer.MIN_VALUE, Integer.MAX_VALUE, -201, 201, -1, 24, 8, 10};
@@ -21,6 +22,9 @@ public final class ModelTest {
         for (int run = 0; run < RUNS; run++) {
             new ModelTest(run).run(run);
         }
+        for (int run = RUNS; run < RUNS + HISTORY_RUNS; run++) {
+            new ModelTest(run).runThroughHistory(run);
+        }
         CHECK.end("ModelTest");
     }
 
@@ -35,6 +39,26 @@ public final class ModelTest {
             } else {
                 ask(run);
             }
+        }
+    }
+
+    /** Many edits at once, then many undone and some done again: single calls hardly ever come to the 32nd. */
+    private void runThroughHistory(int run) {
+        while (calls < CALLS) {
+            for (int k = random.nextInt(60); k > 0; k--) {
+                if (random.nextInt(4) == 0) {
+                    commit(run);
+                } else {
+                    amend(run, someAction());
+                }
+            }
+            for (int k = random.nextInt(36); k > 0; k--) {
+                undo(run);
+            }
+            for (int k = random.nextInt(36) - 18; k > 0; k--) {
+                redo(run);
+            }
+            wholeObject(run);
         }
     }
 
@@ -120,9 +144,17 @@ public final class ModelTest {
             case 0 -> compare(run, "withdraw(" + n + ")", () -> real.withdraw(n), () -> model.withdraw(n));
             case 1, 2 -> compare(run, "reinstate(" + n + ")", () -> real.reinstate(n), () -> model.reinstate(n));
             case 3 -> amend(run, n);
-            case 4 -> compare(run, "undo()", real::undo, model::undo);
-            default -> compare(run, "redo()", real::redo, model::redo);
+            case 4 -> undo(run);
+            default -> redo(run);
         }
+    }
+
+    private void undo(int run) {
+        compare(run, "undo()", real::undo, model::undo);
+    }
+
+    private void redo(int run) {
+        compare(run, "redo()", real::redo, model::redo);
     }
 
     private void amend(int run, int n) {
